@@ -1,0 +1,25 @@
+/** Counts the answers that are not the ones that are due. */
+final class Due {
+    private int wrong = 0;
+
+    void equal(String call, long got, long want) {
+        if (got != want) {
+            wrong++;
+            System.out.println(call + " answered " + got + ", due is " + want);
+        }
+    }
+
+    void holds(String what, boolean held) {
+        if (!held) {
+            wrong++;
+            System.out.println("does not hold: " + what);
+        }
+    }
+
+    void end() {
+        System.out.println(wrong == 0 ? "all answers are as due" : wrong + " answers are not as due");
+        if (wrong != 0) {
+            System.exit(1);
+        }
+    }
+}
