@@ -4,6 +4,7 @@ import java.util.List;
 /** Promises 9 to 21 on many words, each answer held against the model's. */
 public final class ModelTest {
     private static final Due due = new Due();
+    private static long state = 1;
 
     public static void main(String[] args) {
         allShortPatterns();
@@ -27,43 +28,45 @@ public final class ModelTest {
         }
     }
 
-    // Few letters in a row that differ and many that come again, up to the full lengths.
     private static void longWords() {
-        long state = 1;
         for (int round = 0; round < 20000; round++) {
-            StringBuilder pattern = new StringBuilder();
-            StringBuilder text = new StringBuilder();
-            state = step(state);
-            int root = 1 + pick(state, 6);
-            state = step(state);
-            int patternLength = pick(state, 17);
-            state = step(state);
-            int letters = 1 + pick(state, 3);
-            for (int k = 0; k < patternLength; k++) {
-                state = step(state);
-                boolean again = k >= root && pick(state, 12) != 0;
-                pattern.append(again ? pattern.charAt(k - root) : (char) ('0' + pick(state / 12, letters)));
-            }
-            state = step(state);
-            int textLength = pick(state, 49);
-            while (text.length() < textLength) {
-                state = step(state);
-                int cut = pick(state, patternLength + 1);
-                text.append(pick(state / 17, 4) == 0 ? "" + pick(state / 68, letters) : pattern.substring(cut));
-            }
-            text.setLength(textLength);
-            TwoWaySearcher x = Make.searcher(pattern.toString(), text.toString());
-            compareBuild(x, pattern.toString());
-            compareFinding(x, pattern.toString(), text.toString());
+            int letters = 1 + pick(3);
+            String pattern = longPattern(pick(17), letters);
+            String text = longText(pick(49), pattern, letters);
+            TwoWaySearcher x = Make.searcher(pattern, text);
+            compareBuild(x, pattern);
+            compareFinding(x, pattern, text);
         }
     }
 
-    // A fixed row of numbers: the test has to be the same at every run.
-    private static long step(long state) {
-        return state * 6364136223846793005L + 1442695040888963407L;
+    // Nearly periodic: words of letters picked one by one have hardly any borders.
+    private static String longPattern(int length, int letters) {
+        int root = 1 + pick(6);
+        StringBuilder word = new StringBuilder();
+        for (int k = 0; k < length; k++) {
+            boolean again = k >= root && pick(12) != 0;
+            word.append(again ? word.charAt(k - root) : (char) ('0' + pick(letters)));
+        }
+        return word.toString();
     }
 
-    private static int pick(long state, int bound) {
+    // Put together from ends of the pattern and single letters, so that the pattern comes again and again.
+    private static String longText(int length, String pattern, int letters) {
+        StringBuilder word = new StringBuilder();
+        while (word.length() < length) {
+            if (pick(4) == 0) {
+                word.append(pick(letters));
+            } else {
+                word.append(pattern.substring(pick(pattern.length() + 1)));
+            }
+        }
+        word.setLength(length);
+        return word.toString();
+    }
+
+    // A fixed row of numbers: the test has to be the same at every run.
+    private static int pick(int bound) {
+        state = state * 6364136223846793005L + 1442695040888963407L;
         return (int) ((state >>> 33) % bound);
     }
 
