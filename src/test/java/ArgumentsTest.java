@@ -1,5 +1,3 @@
-import java.util.function.Consumer;
-
 /** Arguments far out of range: no call throws, and a refused call or a question changes nothing. */
 public final class ArgumentsTest {
     private static final int[] FAR = {
@@ -14,16 +12,16 @@ public final class ArgumentsTest {
         for (String pattern : PATTERNS) {
             for (String text : TEXTS) {
                 farArguments(pattern, text);
-                holdsStill("letters out of range", ArgumentsTest::refusedLetters, pattern, text);
-                holdsStill("questions", ArgumentsTest::askAll, pattern, text);
+                Still.holds(due, "letters out of range", ArgumentsTest::refusedLetters, pattern, text);
+                Still.holds(due, "questions", ArgumentsTest::askAll, pattern, text);
                 if (pattern.length() == 16) {
-                    holdsStill("a full pattern", x -> x.pattern(1), pattern, text);
+                    Still.holds(due, "a full pattern", x -> x.pattern(1), pattern, text);
                 }
                 if (text.length() == 48) {
-                    holdsStill("a full text", x -> x.feed(1), pattern, text);
+                    Still.holds(due, "a full text", x -> x.feed(1), pattern, text);
                 }
                 if (pattern.length() + text.length() > 48) {
-                    holdsStill("a pattern too long to be fed", TwoWaySearcher::feedPattern, pattern, text);
+                    Still.holds(due, "a pattern too long to be fed", TwoWaySearcher::feedPattern, pattern, text);
                 }
             }
         }
@@ -71,35 +69,5 @@ public final class ArgumentsTest {
             x.greatestEnd(argument);
             x.factor(argument);
         }
-    }
-
-    // Reading the text needs other patterns, and reading the pattern another text: hence two objects.
-    private static void holdsStill(String after, Consumer<TwoWaySearcher> calls, String pattern, String text) {
-        String told = "after " + after + ", pattern " + pattern + " and text " + text;
-        TwoWaySearcher x = Make.searcher(pattern, text);
-        calls.accept(x);
-        due.equal(told + ": patternLength()", x.patternLength(), pattern.length());
-        due.equal(told + ": textLength()", x.textLength(), text.length());
-        due.holds(told + ": the text is the same", text.equals(readText(x)));
-
-        TwoWaySearcher y = Make.searcher(pattern, text);
-        calls.accept(y);
-        y.erase();
-        y.feedPattern();
-        due.holds(told + ": the pattern is the same", pattern.equals(readText(y)));
-    }
-
-    private static String readText(TwoWaySearcher x) {
-        StringBuilder text = new StringBuilder("?".repeat(x.textLength()));
-        for (int c = 0; c <= 2; c++) {
-            x.scrap();
-            x.pattern(c);
-            int place = x.next(0);
-            for (int k = 0; k < 48 && place >= 0; k++) {
-                text.setCharAt(place, (char) ('0' + c));
-                place = x.next(place + 1);
-            }
-        }
-        return text.toString();
     }
 }

@@ -1,19 +1,28 @@
-/** Counts the answers that are not the ones that are due. */
+/** Counts the answers that are not the ones that are due, and tells under which sentence of the document they fall. */
 final class Due {
+    private String sentence = "";
     private int wrong = 0;
+
+    /** What follows tests this sentence. */
+    void sentence(String words) {
+        sentence = "[" + words + "] ";
+    }
 
     void equal(String call, long got, long want) {
         if (got != want) {
-            wrong++;
-            System.out.println(call + " answered " + got + ", due is " + want);
+            tell(call + " answered " + got + ", due is " + want);
         }
     }
 
     void holds(String what, boolean held) {
         if (!held) {
-            wrong++;
-            System.out.println("does not hold: " + what);
+            tell("does not hold: " + what);
         }
+    }
+
+    void tell(String fault) {
+        wrong++;
+        System.out.println(sentence + fault);
     }
 
     void end() {

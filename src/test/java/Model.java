@@ -1,3 +1,6 @@
+import java.util.ArrayList;
+import java.util.List;
+
 /**
  * The document's definitions on strings of the letters 0, 1, 2, told as plainly as they stand there
  * and by other means than the class under test, so that one mistake is not made twice.
@@ -157,6 +160,28 @@ final class Model {
             begin += length;
         }
         return begin == m;
+    }
+
+    int factors() {
+        return factorWords().size();
+    }
+
+    int factor(int i) {
+        List<String> words = factorWords();
+        return i < 0 || i >= words.size() ? NONE : words.get(i).length();
+    }
+
+    // Two Lyndon words of which the first comes before the second are one Lyndon word when joined.
+    private List<String> factorWords() {
+        List<String> words = new ArrayList<>();
+        for (int i = m - 1; i >= 0; i--) {
+            String word = pattern.substring(i, i + 1);
+            while (!words.isEmpty() && word.compareTo(words.get(0)) < 0) {
+                word += words.remove(0);
+            }
+            words.add(0, word);
+        }
+        return words;
     }
 
     private static boolean isLyndon(String word) {

@@ -4,7 +4,7 @@ import java.util.List;
 /** Promises 9 to 21 on many words, each answer held against the model's. */
 public final class ModelTest {
     private static final Due due = new Due();
-    private static long state = 1;
+    private static final Row row = new Row(1);
 
     public static void main(String[] args) {
         allShortPatterns();
@@ -30,9 +30,9 @@ public final class ModelTest {
 
     private static void longWords() {
         for (int round = 0; round < 20000; round++) {
-            int letters = 1 + pick(3);
-            String pattern = longPattern(pick(17), letters);
-            String text = longText(pick(49), pattern, letters);
+            int letters = 1 + row.pick(3);
+            String pattern = longPattern(row.pick(17), letters);
+            String text = longText(row.pick(49), pattern, letters);
             TwoWaySearcher x = Make.searcher(pattern, text);
             compareBuild(x, pattern);
             compareFinding(x, pattern, text);
@@ -41,11 +41,11 @@ public final class ModelTest {
 
     // Nearly periodic: words of letters picked one by one have hardly any borders.
     private static String longPattern(int length, int letters) {
-        int root = 1 + pick(6);
+        int root = 1 + row.pick(6);
         StringBuilder word = new StringBuilder();
         for (int k = 0; k < length; k++) {
-            boolean again = k >= root && pick(12) != 0;
-            word.append(again ? word.charAt(k - root) : (char) ('0' + pick(letters)));
+            boolean again = k >= root && row.pick(12) != 0;
+            word.append(again ? word.charAt(k - root) : (char) ('0' + row.pick(letters)));
         }
         return word.toString();
     }
@@ -54,20 +54,14 @@ public final class ModelTest {
     private static String longText(int length, String pattern, int letters) {
         StringBuilder word = new StringBuilder();
         while (word.length() < length) {
-            if (pick(4) == 0) {
-                word.append(pick(letters));
+            if (row.pick(4) == 0) {
+                word.append(row.pick(letters));
             } else {
-                word.append(pattern.substring(pick(pattern.length() + 1)));
+                word.append(pattern.substring(row.pick(pattern.length() + 1)));
             }
         }
         word.setLength(length);
         return word.toString();
-    }
-
-    // A fixed row of numbers: the test has to be the same at every run.
-    private static int pick(int bound) {
-        state = state * 6364136223846793005L + 1442695040888963407L;
-        return (int) ((state >>> 33) % bound);
     }
 
     private static List<String> wordsUpTo(int length) {
@@ -103,6 +97,7 @@ public final class ModelTest {
             lengths[i] = x.factor(i);
         }
         due.holds("factors() and factor(i)" + of, model.areFactors(lengths));
+        due.equal("factors()" + of, lengths.length, model.factors());
         due.equal("factor(-1)" + of, x.factor(-1), TwoWaySearcher.NONE);
         due.equal("factor(" + lengths.length + ")" + of, x.factor(lengths.length), TwoWaySearcher.NONE);
     }
