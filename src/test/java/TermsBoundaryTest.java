@@ -27,7 +27,8 @@ public final class TermsBoundaryTest {
         firstAndLastOccurrence();
         everyLetterOfAnOccurrence();
         emptyPatternHasNoOccurrences();
-        leastAndGreatestPeriod();
+        leastPeriod();
+        wholeLengthIsAPeriod();
         everyPlaceOfAPeriod();
         borderIsShorter();
         emptyBorder();
@@ -123,12 +124,18 @@ public final class TermsBoundaryTest {
         run("1", "012").due("occurrences()", 1);
     }
 
-    private static void leastAndGreatestPeriod() {
-        due.sentence("Terms: A PERIOD of a word of length m >= 1 is a number q, 1 <= q <= m (so m is one)");
+    private static void leastPeriod() {
+        due.sentence("Terms: A PERIOD of a word of length m >= 1 is a number q, 1 <= q <= m");
         run("2", "").due("period()", 1).due("periods()", 1);
         run("00", "").due("period()", 1).due("periods()", 2);
-        run("01", "").due("period()", 2).due("periods()", 1);
         run("1".repeat(16), "").due("period()", 1).due("periods()", 16);
+    }
+
+    private static void wholeLengthIsAPeriod() {
+        due.sentence("Terms: (so m is one)");
+        run("0", "").due("period()", 1).due("periods()", 1);
+        run("01", "").due("period()", 2).due("periods()", 1);
+        run("010", "").due("period()", 2).due("periods()", 2);
         run("0".repeat(15) + "1", "").due("period()", 16).due("periods()", 1);
     }
 
